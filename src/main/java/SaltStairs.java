@@ -597,50 +597,49 @@ public final class SaltStairs {
         private final Text draft = new Text();
         private final long[] names = new long[MOST_PILGRIMS];
         private int next;
+        // Of the next TOKEN; behind a FAULT there is none more, so that all that still reads comes to its end.
+        private int kind;
         private int lawsTold;
         private int fault;
-        private int faultAt;
+        private int faultToken;
         // TWICE and WRONG stand back behind SYNTAX and ROOM, wherever these are.
         private int laterFault;
-        private int laterFaultAt;
+        private int laterFaultToken;
 
         private Parser(Tape tape) {
             this.tape = tape;
         }
 
         private int parse() {
+            tape.cutIntoTokens();
             next = 0;
+            kind = tape.kindAt(next);
             lawsTold = 0;
             fault = 0;
             laterFault = 0;
             draft.clear();
-            tape.cutIntoTokens();
-            for (int i = 0; i <= Tape.MOST_TOKENS && fault == 0 && kind() != Tape.END; i++) {
-                readTell();
+            for (int i = 0; i <= Tape.MOST_TOKENS && fault == 0 && kind != Tape.END; i++) {
+                switch (kind) {
+                    case Tape.WORD_STEPS: readSteps(); break;
+                    case Tape.WORD_RAIN: readRain(); break;
+                    case Tape.WORD_BRINE: readBrine(); break;
+                    case Tape.WORD_PILGRIM: readPilgrim(); break;
+                    case Tape.WORD_LAW: readLaw(); break;
+                    default: fail(SYNTAX);
+                }
+                take(';');
             }
             return fault != 0 ? fault : laterFault;
         }
 
         private int faultPlace() {
-            return fault != 0 ? faultAt : laterFaultAt;
-        }
-
-        private void readTell() {
-            switch (kind()) {
-                case Tape.WORD_STEPS: readSteps(); break;
-                case Tape.WORD_RAIN: readRain(); break;
-                case Tape.WORD_BRINE: readBrine(); break;
-                case Tape.WORD_PILGRIM: readPilgrim(); break;
-                case Tape.WORD_LAW: readLaw(); break;
-                default: fail(SYNTAX);
-            }
-            take(';');
+            return tape.startAt(fault != 0 ? faultToken : laterFaultToken);
         }
 
         private void readSteps() {
             take(Tape.WORD_STEPS);
             draft.steps = 0;
-            for (int n = 0; n <= MOST_STEPS && kind() == Tape.INT; n++) {
+            for (int n = 0; n <= MOST_STEPS && kind == Tape.INT; n++) {
                 if (n == MOST_STEPS) {
                     fail(ROOM);
                 } else {
@@ -653,7 +652,7 @@ public final class SaltStairs {
         private void readRain() {
             take(Tape.WORD_RAIN);
             draft.rains = 0;
-            for (int n = 0; n <= MOST_RAINS && kind() == Tape.INT; n++) {
+            for (int n = 0; n <= MOST_RAINS && kind == Tape.INT; n++) {
                 if (n == MOST_RAINS) {
                     fail(ROOM);
                 } else {
@@ -673,18 +672,19 @@ public final class SaltStairs {
             int number = draft.pilgrims;
             if (number >= MOST_PILGRIMS) {
                 fail(ROOM);
+                return;
             }
             take(Tape.WORD_PILGRIM);
             takeName(number);
             put(draft.weights, number, takeInt(1, 30));
             put(draft.vows, number, takeVow());
-            draft.pilgrims = Math.min(MOST_PILGRIMS, number + 1);
+            draft.pilgrims = number + 1;
         }
 
         private void takeName(int number) {
             long name = tape.valueAt(next);
             for (int i = 0; i < number && i < names.length; i++) {
-                if (names[i] == name && kind() == Tape.NAME) {
+                if (kind == Tape.NAME && names[i] == name) {
                     failLater(TWICE);
                 }
             }
@@ -698,12 +698,13 @@ public final class SaltStairs {
             lawsTold++;
             if (lawsTold > MOST_LAWS) {
                 fail(ROOM);
+                return;
             }
             take(Tape.WORD_LAW);
             int vow = takeVow();
             take('=');
             draft.laws.open(vow);
-            for (int n = 0; n <= MOST_IFS && kind() == Tape.WORD_IF; n++) {
+            for (int n = 0; n <= MOST_IFS && kind == Tape.WORD_IF; n++) {
                 if (n == MOST_IFS) {
                     fail(ROOM);
                 } else {
@@ -728,33 +729,40 @@ public final class SaltStairs {
             draft.laws.elseHere(test);
         }
 
+        // A + or - waits until its right side, which * and / may still lengthen, is whole.
         private void readSum(int nested) {
-            readProduct(nested);
-            for (int i = 0; i < Tape.MOST_TOKENS && (kind() == '+' || kind() == '-'); i++) {
-                int sign = kind();
+            int waiting = NONE;
+            readUnit(nested);
+            for (int i = 0; i < Tape.MOST_TOKENS && isSign(kind); i++) {
+                int sign = kind;
+                boolean bindsLess = sign == '+' || sign == '-';
+                if (bindsLess && waiting != NONE) {
+                    draft.laws.emit(waiting, 0);
+                }
                 take(sign);
-                readProduct(nested);
-                draft.laws.emit(sign == '+' ? Laws.PLUS : Laws.MINUS, 0);
+                readUnit(nested);
+                if (bindsLess) {
+                    waiting = sign == '+' ? Laws.PLUS : Laws.MINUS;
+                } else {
+                    draft.laws.emit(sign == '*' ? Laws.TIMES : Laws.OVER, 0);
+                }
+            }
+            if (waiting != NONE) {
+                draft.laws.emit(waiting, 0);
             }
         }
 
-        private void readProduct(int nested) {
-            readUnit(nested);
-            for (int i = 0; i < Tape.MOST_TOKENS && (kind() == '*' || kind() == '/'); i++) {
-                int sign = kind();
-                take(sign);
-                readUnit(nested);
-                draft.laws.emit(sign == '*' ? Laws.TIMES : Laws.OVER, 0);
-            }
+        private static boolean isSign(int kind) {
+            return kind == '+' || kind == '-' || kind == '*' || kind == '/';
         }
 
         private void readUnit(int nested) {
-            int kind = kind();
+            int look = kind - Tape.WORD_WEIGHT;
             if (kind == Tape.INT) {
                 draft.laws.emit(Laws.NUMBER, takeInt(0, 9999));
             } else if (kind >= Tape.WORD_WEIGHT && kind <= Tape.WORD_GONE) {
                 take(kind);
-                draft.laws.emit(Laws.LOOK, kind - Tape.WORD_WEIGHT);
+                draft.laws.emit(Laws.LOOK, look);
             } else if (kind != '(') {
                 fail(SYNTAX);
             } else if (nested >= MOST_NESTED) {
@@ -766,24 +774,20 @@ public final class SaltStairs {
             }
         }
 
-        // Behind a FAULT there is no TOKEN more, so that all that still reads comes to its end.
-        private int kind() {
-            return fault != 0 ? Tape.NO_TOKEN : tape.kindAt(next);
-        }
-
         private void take(int wanted) {
-            if (kind() != wanted) {
+            if (kind != wanted) {
                 fail(SYNTAX);
             } else if (next >= Tape.MOST_TOKENS) {
                 fail(ROOM);
             } else {
                 next++;
+                kind = tape.kindAt(next);
             }
         }
 
         private int takeInt(int least, int most) {
             int value = (int) tape.valueAt(next);
-            if (kind() == Tape.INT && (value < least || value > most)) {
+            if (kind == Tape.INT && (value < least || value > most)) {
                 failLater(WRONG);
             }
             take(Tape.INT);
@@ -791,26 +795,27 @@ public final class SaltStairs {
         }
 
         private int takeVow() {
-            int kind = kind();
+            int vow = kind - Tape.WORD_PLAIN;
             if (kind < Tape.WORD_PLAIN || kind > Tape.WORD_STAYS) {
                 fail(SYNTAX);
                 return PLAIN;
             }
             take(kind);
-            return kind - Tape.WORD_PLAIN;
+            return vow;
         }
 
         private void fail(int which) {
             if (fault == 0) {
                 fault = which;
-                faultAt = tape.startAt(next);
+                faultToken = next;
+                kind = Tape.NO_TOKEN;
             }
         }
 
         private void failLater(int which) {
             if (laterFault == 0) {
                 laterFault = which;
-                laterFaultAt = tape.startAt(next);
+                laterFaultToken = next;
             }
         }
     }
@@ -917,7 +922,8 @@ public final class SaltStairs {
         private int worth(int vow, int[] looks) {
             int last = 0;
             int many = 0;
-            for (int i = at(starts, vow); i >= 0 && i < commands.length; i++) {
+            int start = vow >= 0 && vow < starts.length ? starts[vow] : NONE;
+            for (int i = start; i >= 0 && i < commands.length; i++) {
                 int command = commands[i] & (1 << BITS) - 1;
                 int number = commands[i] >> BITS;
                 if (command == STOP) {
@@ -986,7 +992,7 @@ public final class SaltStairs {
         }
 
         private int thickAt(int step) {
-            return at(thick, step);
+            return step >= 0 && step < thick.length ? thick[step] : 0;
         }
 
         private int borneAt(int step) {
@@ -1537,7 +1543,7 @@ public final class SaltStairs {
         private int many;
         // A row a set: how THICK each STEP is behind these WALKERS.
         private final int[] behind = new int[MOST_SETS * PLACES];
-        private boolean isKnown;
+        private boolean isWalked;
 
         private Told(Text text, Walk walk) {
             this.text = text;
@@ -1546,7 +1552,7 @@ public final class SaltStairs {
 
         private void startAnew() {
             many = 0;
-            isKnown = false;
+            isWalked = false;
         }
 
         private int add(int step, int thick) {
@@ -1559,8 +1565,15 @@ public final class SaltStairs {
             return many - 1;
         }
 
+        // Only the first who asks has the sets walked: many texts are never asked.
         private boolean knows(int k) {
-            return k >= 0 && k <= many;
+            if (k < 0 || k > many) {
+                return false;
+            }
+            if (!isWalked) {
+                walkAllSets();
+            }
+            return true;
         }
 
         private int fitting(int k) {
@@ -1606,9 +1619,6 @@ public final class SaltStairs {
         }
 
         private boolean isFitting(int set, int k) {
-            if (!isKnown) {
-                walkAllSets();
-            }
             for (int i = 0; i < k; i++) {
                 if (at(behind, set * PLACES + at(steps, i)) != at(thicks, i)) {
                     return false;
@@ -1619,7 +1629,7 @@ public final class SaltStairs {
 
         // The last of a set walks over what the others of it, an earlier set, have left.
         private void walkAllSets() {
-            isKnown = true;
+            isWalked = true;
             stairs.build(text);
             writeRow(0);
             for (int set = 1; set < sets(); set++) {

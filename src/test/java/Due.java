@@ -13,12 +13,16 @@ final class Due {
         asked++;
         if (got != want) {
             wrong++;
-            System.out.println(what + " answered " + got + ", due is " + want);
+            System.out.println(brief(what) + " answered " + got + ", due is " + want);
         }
     }
 
     static void due(String what, boolean got, boolean want) {
         due(what, got ? 1 : 0, want ? 1 : 0);
+    }
+
+    private static String brief(String what) {
+        return what.length() <= 200 ? what : what.substring(0, 100) + " .. " + what.substring(what.length() - 100);
     }
 
     static void end() {
