@@ -620,8 +620,8 @@ public final class SaltStairs {
             draft.clear();
             for (int i = 0; i <= Tape.MOST_TOKENS && fault == 0 && kind != Tape.END; i++) {
                 switch (kind) {
-                    case Tape.WORD_STEPS: readSteps(); break;
-                    case Tape.WORD_RAIN: readRain(); break;
+                    case Tape.WORD_STEPS: draft.steps = readRow(draft.thick, 1, MOST_STEPS, MOST_THICK); break;
+                    case Tape.WORD_RAIN: draft.rains = readRow(draft.rain, 0, MOST_RAINS, MOST_RAIN); break;
                     case Tape.WORD_BRINE: readBrine(); break;
                     case Tape.WORD_PILGRIM: readPilgrim(); break;
                     case Tape.WORD_LAW: readLaw(); break;
@@ -636,30 +636,17 @@ public final class SaltStairs {
             return tape.startAt(fault != 0 ? faultToken : laterFaultToken);
         }
 
-        private void readSteps() {
-            take(Tape.WORD_STEPS);
-            draft.steps = 0;
-            for (int n = 0; n <= MOST_STEPS && kind == Tape.INT; n++) {
-                if (n == MOST_STEPS) {
-                    fail(ROOM);
-                } else {
-                    draft.steps = n + 1;
-                    put(draft.thick, n + 1, takeInt(0, MOST_THICK));
-                }
+        private int readRow(int[] row, int first, int room, int most) {
+            take(kind);
+            int many = 0;
+            while (many < room && kind == Tape.INT) {
+                put(row, first + many, takeInt(0, most));
+                many++;
             }
-        }
-
-        private void readRain() {
-            take(Tape.WORD_RAIN);
-            draft.rains = 0;
-            for (int n = 0; n <= MOST_RAINS && kind == Tape.INT; n++) {
-                if (n == MOST_RAINS) {
-                    fail(ROOM);
-                } else {
-                    draft.rains = n + 1;
-                    put(draft.rain, n, takeInt(0, MOST_RAIN));
-                }
+            if (kind == Tape.INT) {
+                fail(ROOM);
             }
+            return many;
         }
 
         private void readBrine() {
@@ -704,12 +691,11 @@ public final class SaltStairs {
             int vow = takeVow();
             take('=');
             draft.laws.open(vow);
-            for (int n = 0; n <= MOST_IFS && kind == Tape.WORD_IF; n++) {
-                if (n == MOST_IFS) {
-                    fail(ROOM);
-                } else {
-                    readIf();
-                }
+            for (int n = 0; n < MOST_IFS && kind == Tape.WORD_IF; n++) {
+                readIf();
+            }
+            if (kind == Tape.WORD_IF) {
+                fail(ROOM);
             }
             readSum(0);
             draft.laws.emit(Laws.STOP, 0);
@@ -759,7 +745,8 @@ public final class SaltStairs {
         private void readUnit(int nested) {
             int look = kind - Tape.WORD_WEIGHT;
             if (kind == Tape.INT) {
-                draft.laws.emit(Laws.NUMBER, takeInt(0, 9999));
+                draft.laws.emit(Laws.NUMBER, (int) tape.valueAt(next));
+                take(Tape.INT);
             } else if (kind >= Tape.WORD_WEIGHT && kind <= Tape.WORD_GONE) {
                 take(kind);
                 draft.laws.emit(Laws.LOOK, look);

@@ -9,6 +9,7 @@ public final class AskingTest {
     public static void main(String[] args) {
         orders();
         ordersOfMany();
+        eachChangeIsSeen();
         need();
         needOfLongOnes();
         needByLaws();
@@ -55,6 +56,30 @@ public final class AskingTest {
         Due.due("undone", x.order(2, 0), 1);
     }
 
+    private static void eachChangeIsSeen() {
+        SaltStairs x = Due.of("steps 9 90; rain 4; brine 20 5; pilgrim a 2 plain;");
+        seen(x, 1, -3);
+        x.night(2);
+        seen(x, 0, 0);
+        x.hold(0);
+        x.mend(1, 8);
+        seen(x, 1, -3);
+        x.go(0);
+        seen(x, 1, 0);
+        x.undo();
+        seen(x, 1, -3);
+        x.restore(0);
+        seen(x, 0, 0);
+        Due.read(x, "steps 9; pilgrim a 2 plain;");
+        seen(x, 1, -3);
+    }
+
+    private static void seen(SaltStairs x, int come, int day) {
+        Due.due("come", x.order(1, 0), come);
+        Due.due("at", x.orderAt(1, 0), 0);
+        Due.due("day", x.season(1, 0), day);
+    }
+
     private static void ordersOfMany() {
         SaltStairs x = Due.of("steps 90;" + EIGHT);
         Due.due("eight", x.order(255, 0), -2);
@@ -62,6 +87,7 @@ public final class AskingTest {
         Due.due("eight, wrong place", x.orderAt(255, 8), -1);
         Due.due("eight, below", x.orderAt(255, -1), -1);
         Due.due("seven", x.order(254, 0), 7);
+        Due.due("the last of seven", x.orderAt(254, 6), 7);
         Due.due("what", x.order(3, 2), -1);
         Due.due("what below", x.order(3, -1), -1);
         Due.due("ninth", x.order(256, 0), -1);

@@ -18,6 +18,8 @@ public final class TapeTest {
         later();
         faultLeavesAll();
         readBeginsAnew();
+        lastRowCounts();
+        longLawsAgainAndAgain();
         Due.end();
     }
 
@@ -85,6 +87,7 @@ public final class TapeTest {
         fine("pilgrim wets 1 long; law stays = weight+thick-step*day/wet+up-gone;");
         fine("steps 1 1 1 1 1 1 1 1 1 1 1 1 1 1 1 1 1 1 1 1 1 1 1 1;rain 1 1 1 1 1 1 1 1 1 1 1 1 1 1;");
         fine("steps1 2;");
+        fine("pilgrim z 1 plain;pilgrim az 1 plain;pilgrim za 1 plain;pilgrim xteps 1 plain;pilgrim kaw 1 plain;");
         fine("rain 1;".repeat(132) + "rain 1 1;" + " ".repeat(2000 - 132 * 7 - 9));
     }
 
@@ -232,5 +235,25 @@ public final class TapeTest {
         Due.due("night", x.night(1), 1);
         Due.due("thick", x.step(1, 0), 5);
         Due.due("brine", x.count(2), 9);
+    }
+
+    private static void lastRowCounts() {
+        SaltStairs x = Due.of("steps 5 6 7;steps 8;rain 1 2 3;rain 4;brine 1 2;brine 3 4;");
+        int[] counts = {1, 0, 3, 0, 1};
+        for (int what = 0; what < counts.length; what++) {
+            Due.due("count(" + what + ") of the last", x.count(what), counts[what]);
+        }
+        x = Due.of("steps 5 6 7;steps;rain 1 2 3;rain;");
+        Due.due("an empty row of steps", x.count(0), 0);
+        Due.due("an empty row of rain", x.count(4), 0);
+    }
+
+    private static void longLawsAgainAndAgain() {
+        SaltStairs x = new SaltStairs();
+        for (int i = 1; i <= 9; i++) {
+            String law = "law plain = " + i + " + 0".repeat(150) + ";";
+            Due.due("read of a long law", Due.read(x, "steps 9; pilgrim a 5 plain;" + law), 0);
+            Due.due("the law", x.wear(0, 1, true), i);
+        }
     }
 }
