@@ -928,7 +928,7 @@ public final class SaltStairs {
                 int first = many >= 0 && many < kept.length ? kept[many] : 0;
                 if (command == LESS) {
                     many = 0;
-                    i = first < last ? i : Math.max(i, number - 1);
+                    i = first < last || number <= i ? i : number - 1;
                 } else if (command == OVER) {
                     if (last == 0) {
                         return 0;

@@ -24,7 +24,7 @@ public final class AskingTest {
         Due.end();
     }
 
-    private static void best(String text, int came, int stuck, int... order) {
+    static void best(String text, int came, int stuck, int... order) {
         SaltStairs x = Due.of(text);
         int set = (1 << order.length) - 1;
         Due.due("come by order of " + text, x.order(set, 0), came);
@@ -200,7 +200,7 @@ public final class AskingTest {
         Due.due("dry then", x.odds(1, 0, 2, 1, 2), 4);
     }
 
-    private static void season(SaltStairs x, int n, int day, int step, int by, int stuck) {
+    static void season(SaltStairs x, int n, int day, int step, int by, int stuck) {
         Due.due("day of " + n, x.season(n, 0), day);
         Due.due("step of " + n, x.season(n, 1), step);
         Due.due("by whom of " + n, x.season(n, 2), by);

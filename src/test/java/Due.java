@@ -5,6 +5,7 @@ import java.util.Arrays;
 final class Due {
     private static int wrong = 0;
     private static int asked = 0;
+    private static String edge = "";
 
     private Due() {
     }
@@ -13,12 +14,17 @@ final class Due {
         asked++;
         if (got != want) {
             wrong++;
-            System.out.println(brief(what) + " answered " + got + ", due is " + want);
+            System.out.println(edge + brief(what) + " answered " + got + ", due is " + want);
         }
     }
 
     static void due(String what, boolean got, boolean want) {
         due(what, got ? 1 : 0, want ? 1 : 0);
+    }
+
+    /** The words of the document that the answers from here on are held to. */
+    static void edge(String words) {
+        edge = words.isEmpty() ? "" : words + ": ";
     }
 
     private static String brief(String what) {

@@ -23,13 +23,13 @@ public final class GoingTest {
         Due.end();
     }
 
-    private static void thick(SaltStairs x, int... steps) {
+    static void thick(SaltStairs x, int... steps) {
         for (int i = 0; i < steps.length; i++) {
             Due.due("step(" + (i + 1) + ", 0)", x.step(i + 1, 0), steps[i]);
         }
     }
 
-    private static void goes(String text, int outcome, int spot, int led, int... steps) {
+    static void goes(String text, int outcome, int spot, int led, int... steps) {
         SaltStairs x = Due.of(text);
         Due.due("would be " + text, x.would(0, 0), outcome);
         Due.due("where " + text, x.would(0, 1), spot);
@@ -44,7 +44,7 @@ public final class GoingTest {
         thick(x, steps);
     }
 
-    private static void wearIs(String law, int wear) {
+    static void wearIs(String law, int wear) {
         SaltStairs x = Due.of("steps 20 30 0; rain 0 6; pilgrim a 7 plain; law plain = " + law + ";");
         Due.due(law, x.wear(0, 2, true), wear);
     }
