@@ -1120,9 +1120,9 @@ public final class SaltStairs {
         private void beginAs(int heavy, int bound, int day) {
             weight = heavy;
             vow = bound;
-            looks[0] = heavy;
-            looks[3] = day;
-            looks[4] = text.rainOf(day);
+            put(looks, 0, heavy);
+            put(looks, 3, day);
+            put(looks, 4, text.rainOf(day));
             spot = 0;
             led = 0;
             lost = NONE;
@@ -1220,10 +1220,10 @@ public final class SaltStairs {
             if (!text.laws.tells(vow)) {
                 return weight;
             }
-            looks[1] = thick;
-            looks[2] = step;
-            looks[5] = up ? 1 : 0;
-            looks[6] = gone;
+            put(looks, 1, thick);
+            put(looks, 2, step);
+            put(looks, 5, up ? 1 : 0);
+            put(looks, 6, gone);
             return Math.max(0, Math.min(MOST_THICK, text.laws.worth(vow, looks)));
         }
     }

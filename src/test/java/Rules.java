@@ -1,3 +1,5 @@
+import com.sun.source.tree.ArrayAccessTree;
+import com.sun.source.tree.AssignmentTree;
 import com.sun.source.tree.BinaryTree;
 import com.sun.source.tree.BlockTree;
 import com.sun.source.tree.ClassTree;
@@ -28,7 +30,9 @@ import java.util.List;
 import java.util.Map;
 import java.util.Set;
 import java.util.TreeSet;
+import java.util.regex.Pattern;
 import javax.lang.model.element.Element;
+import javax.lang.model.type.TypeKind;
 import javax.lang.model.type.TypeMirror;
 import javax.tools.JavaCompiler;
 import javax.tools.StandardJavaFileManager;
@@ -48,6 +52,7 @@ final class Rules extends TreePathScanner<Void, Void> {
     private final Trees trees;
     private final Map<String, Set<String>> calls = new LinkedHashMap<>();
     private String method = "";
+    private String body = "";
 
     Rules(Path source) throws IOException {
         JavaCompiler compiler = ToolProvider.getSystemJavaCompiler();
@@ -132,8 +137,11 @@ final class Rules extends TreePathScanner<Void, Void> {
         Due.edge("rule 11");
         Due.due(method + " has some sixty lines at most", last - first < 60, true);
         Due.due(method + " takes at most seven", tree.getParameters().size() <= 7, true);
+        String outerBody = body;
+        body = tree.toString();
         super.visitMethod(tree, none);
         method = outer;
+        body = outerBody;
         return null;
     }
 
@@ -175,6 +183,45 @@ final class Rules extends TreePathScanner<Void, Void> {
     private void divides(ExpressionTree divisor) {
         boolean isConstant = divisor instanceof LiteralTree l && !l.getValue().equals(0) || divisor.toString().matches("[A-Z_]+");
         Due.due("a divisor that is not 0: " + divisor, isConstant || DIVISORS.contains(divisor.toString()), true);
+    }
+
+    @Override
+    public Void visitArrayAccess(ArrayAccessTree tree, Void none) {
+        String row = tree.getExpression().toString();
+        String index = tree.getIndex().toString();
+        Due.edge("rule 7");
+        String way = row + "[" + index + "], " + lineOf(tree);
+        Due.due("an index is looked at against the length ahead of " + way, isBelowLength(row, index), true);
+        Due.due("an index is looked at against 0 ahead of " + way, isNotBelowZero(index), true);
+        Due.due("what may be null is looked at ahead of " + way, isNoNull(tree, row + "[" + index + "]"), true);
+        return super.visitArrayAccess(tree, none);
+    }
+
+    private boolean isBelowLength(String row, String index) {
+        return isInMethod(index + " < " + row + ".length") || isInMethod(index + " >= " + row + ".length")
+                || isInMethod(index + " + 1 >= " + row + ".length")
+                || isNumber(index) && isInMethod(row + ".length < " + (Integer.parseInt(index) + 1));
+    }
+
+    private boolean isNotBelowZero(String index) {
+        String counted = index.endsWith(" + 1") ? index.substring(0, index.length() - 4) : index;
+        return isNumber(counted) || isInMethod(counted + " >= 0") || isInMethod(counted + " < 0") || isInMethod("int " + counted + " = 0");
+    }
+
+    private boolean isNoNull(ArrayAccessTree tree, String part) {
+        TypeMirror type = trees.getTypeMirror(getCurrentPath());
+        boolean isObject = type != null && type.getKind() == TypeKind.DECLARED;
+        boolean isPut = getCurrentPath().getParentPath().getLeaf() instanceof AssignmentTree put && put.getVariable() == tree;
+        return !isObject || isPut || isInMethod(part + " == null") || isInMethod(part + " != null");
+    }
+
+    private static boolean isNumber(String index) {
+        return index.matches("\\d+");
+    }
+
+    /** Whether the method around holds these words, not as the end of longer ones. */
+    private boolean isInMethod(String words) {
+        return Pattern.compile("(?<![\\w.])(?<![+*-] )" + Pattern.quote(words) + "(?!\\w)").matcher(body).find();
     }
 
     @Override
